@@ -3,7 +3,7 @@ import java.util.TreeMap;
 
 /** Long runs of calls, the same in every test, on the class and on PlainModel: each answer must be the same. */
 public final class ModelTest {
-    private static final int RUNS = 800;
+    private static final int RUNS = 1200;
     private static final int CALLS = 512;
 
     private static int wrong = 0;
@@ -19,6 +19,8 @@ public final class ModelTest {
     private final int changeShare;
     private final int alonePercent;
     private final int nothingPercent;
+    private final int stepPercent;
+    private final int length;
 
     private ModelTest(int run) {
         this.run = run;
@@ -27,6 +29,9 @@ public final class ModelTest {
         this.changeShare = 1 + pick(6);
         this.alonePercent = 20 + pick(70);
         this.nothingPercent = pick(3) == 0 ? 0 : 1 + pick(20);
+        // Long chains are what makes short fuel matter.
+        this.stepPercent = pick(2) == 0 ? 0 : pick(80);
+        this.length = 120 + pick(CALLS - 120);
     }
 
     private int pick(int below) {
@@ -77,7 +82,7 @@ public final class ModelTest {
     private void newAxiom() {
         int left = aClass();
         int other = pick(100) < alonePercent ? -1 : aClass();
-        int right = aGoal();
+        int right = pick(100) < stepPercent ? left + 1 : aGoal();
         due(call("axiom", left, other, right), x.axiom(left, other, right), model.axiom(left, other, right));
     }
 
@@ -155,15 +160,14 @@ public final class ModelTest {
         for (int n = pick(size + 4); n > 0; n--) {
             newAxiom();
         }
-        int end = CALLS - 1 - (model.classes + 2) * (model.classes + 9);
-        while (calls < Math.max(end, 150)) {
+        while (calls < length) {
             if (pick(10) < changeShare) {
                 change();
             } else {
                 look();
             }
         }
-        if (calls < end + 1) {
+        if (calls + 1 + model.classes * (model.classes + 7) <= CALLS) {
             lookAtAll();
         }
     }

@@ -58,7 +58,11 @@ public final class PromiseTest {
         due("1: type", x.type(0, 0), UNKNOWN);
         due("1: put", x.put(0, 0), UNKNOWN);
         due("1: axiom", x.axiom(0, -1, -1), UNKNOWN);
-        due("1: fuel 20 at first", withChain(21 - 1).ask(0, 19), 1);
+        ClassifySort chain = withChain(20);
+        axioms(chain, ax(19, -1));
+        due("1: fuel 20 at first", chain.ask(0, -1), 1);
+        chain.fuel(19);
+        due("1: and no less", chain.ask(0, -1), 2);
         ClassifySort y = withClasses(3);
         due("1: objects are apart", x.count(0), 0);
         due("1: the other", y.count(0), 3);
@@ -328,9 +332,31 @@ public final class PromiseTest {
         due("9: stays placed", y.count(6), 3);
         due("9: is not EMPTY", y.empty(0), 1);
         due("9: one is", y.empty(1), NONE);
+        due("10: for an EMPTY one: placed with nothing below, though the same", y.parent(1, 0), 0);
+        due("10: no more", y.parent(1, 1), NONE);
         due("9: to sort anew", y.run(), 0);
         due("9: is EMPTY now", y.empty(0), 0);
         due("9: not placed now", y.count(6), 2);
+    }
+
+    /** A placed class that is the same as a lesser EMPTY one, which is not placed. */
+    private static void p10SameAsEmpty() {
+        ClassifySort x = withClasses(5);
+        axioms(x, ax(0, -1), ax(1, 2), ax(2, 3), ax(2, 4), ax(3, 4, -1));
+        x.fuel(3);
+        x.thing();
+        x.put(0, 1);
+        x.run();
+        due("10: EMPTY by telling", x.empty(0), 0);
+        due("10: EMPTY by an answer", x.empty(1), 2);
+        due("10: three are placed", x.count(6), 3);
+        due("12: the same", x.equal(1, 0), 0);
+        due("10: of a lesser EMPTY one", x.parent(0, 0), 1);
+        due("10: of a greater EMPTY one", x.parent(2, 0), 1);
+        due("11: a child, though the same as EMPTY ones", x.child(3, 0), 1);
+        due("11: no more", x.child(3, 1), NONE);
+        due("16: a type, though the same as EMPTY ones", x.type(0, 0), 1);
+        due("16: no more", x.type(0, 1), NONE);
     }
 
     private static ClassifySort withSame() {
@@ -437,6 +463,19 @@ public final class PromiseTest {
         due("14: also when not SORTED", x.open(1), 32);
         x.axiom(1, -1, 0);
         due("14: touched ones are forgotten", x.open(0), NONE);
+
+        // (4,3) is NO since the first run; with 1 below 3 told, (4,1) is NO by that, though 4 is not touched.
+        ClassifySort y = withClasses(5);
+        axioms(y, ax(4, 1), ax(4, 2));
+        y.run();
+        y.fuel(0);
+        due("14: (4,1) goes", y.remove(0), 1);
+        due("14: (4,1) is asked", y.run(), 1);
+        due("14: (4,1) is OPEN", y.open(0), 32 * 4 + 1);
+        axioms(y, ax(1, 3));
+        due("14: NO by what was told", y.known(4, 1), 0);
+        due("14: OPEN no more", y.open(0), NONE);
+        due("14: none is", y.count(4), 0);
     }
 
     private static void p15Put() {
@@ -578,6 +617,7 @@ public final class PromiseTest {
         p08Ask();
         p09Run();
         p09Placed();
+        p10SameAsEmpty();
         p10Parent();
         p11Child();
         p12Equal();
