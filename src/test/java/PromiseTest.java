@@ -1,48 +1,5 @@
 /** For each promise of the document: ordinary calls, its edges, and wrong arguments. All that is due is worked out by hand. */
-public final class PromiseTest {
-    private static final int UNKNOWN = -1;
-    private static final int RANGE = -2;
-    private static final int NOT_NOW = -3;
-    private static final int FULL = -4;
-    private static final int CLASH = -5;
-    private static final int NONE = -6;
-    private static final int MIN = Integer.MIN_VALUE;
-    private static final int MAX = Integer.MAX_VALUE;
-
-    private static int wrong = 0;
-
-    private static void due(String what, int got, int want) {
-        if (got != want) {
-            wrong++;
-            System.out.println(what + " answered " + got + ", due is " + want);
-        }
-    }
-
-    private static ClassifySort withClasses(int n) {
-        ClassifySort x = new ClassifySort();
-        for (int c = 0; c < n; c++) {
-            due("class0()", x.class0(), c);
-        }
-        return x;
-    }
-
-    private static void axioms(ClassifySort x, int[]... rows) {
-        for (int[] row : rows) {
-            if (x.axiom(row[0], row[1], row[2]) < 0) {
-                wrong++;
-                System.out.println("an axiom was refused");
-            }
-        }
-    }
-
-    private static int[] ax(int left, int other, int right) {
-        return new int[] {left, other, right};
-    }
-
-    private static int[] ax(int left, int right) {
-        return ax(left, -1, right);
-    }
-
+public final class PromiseTest extends Checks {
     private static void p01NewObject() {
         ClassifySort x = new ClassifySort();
         for (int what = 0; what <= 6; what++) {
@@ -66,15 +23,6 @@ public final class PromiseTest {
         ClassifySort y = withClasses(3);
         due("1: objects are apart", x.count(0), 0);
         due("1: the other", y.count(0), 3);
-    }
-
-    /** 0 below 1 below 2 .. by axioms 0, 1, .. */
-    private static ClassifySort withChain(int n) {
-        ClassifySort x = withClasses(n);
-        for (int c = 0; c + 1 < n; c++) {
-            axioms(x, ax(c, c + 1));
-        }
-        return x;
     }
 
     private static void p02Class() {
@@ -628,9 +576,6 @@ public final class PromiseTest {
         p16TypeOfEmpty();
         p17Trace();
         p18Count();
-        System.out.println(wrong == 0 ? "all promises hold" : wrong + " answers are not as due");
-        if (wrong != 0) {
-            System.exit(1);
-        }
+        end("all promises hold");
     }
 }
