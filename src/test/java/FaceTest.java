@@ -78,6 +78,37 @@ public final class FaceTest {
         }
     }
 
+    /** The bounds of LANGUAGE.md, rules 5 and 11. */
+    private static void checkBounds() {
+        Class<?>[] inside = ClassifySort.class.getDeclaredClasses();
+        if (inside.length + 1 > 12) {
+            fault("more than twelve classes");
+        }
+        checkBoundsOf(ClassifySort.class);
+        for (Class<?> c : inside) {
+            checkBoundsOf(c);
+        }
+    }
+
+    private static void checkBoundsOf(Class<?> c) {
+        int fields = 0;
+        for (Field f : c.getDeclaredFields()) {
+            if (!Modifier.isStatic(f.getModifiers())) {
+                fields++;
+            } else if (!Modifier.isFinal(f.getModifiers())) {
+                fault(f + " is static and not final");
+            }
+        }
+        if (fields > 20) {
+            fault(c + " has more than twenty fields");
+        }
+        for (Method m : c.getDeclaredMethods()) {
+            if (m.getParameterCount() > 7) {
+                fault(m + " takes more than seven parameters");
+            }
+        }
+    }
+
     private static void checkWords() throws IOException {
         String source = Files.readString(Path.of("src/main/java/ClassifySort.java"));
         String code = source.replaceAll("(?s)/\\*.*?\\*/", " ").replaceAll("//[^\n]*", " ");
@@ -89,6 +120,7 @@ public final class FaceTest {
 
     public static void main(String[] args) throws IOException, IllegalAccessException {
         checkMembers();
+        checkBounds();
         checkWords();
         System.out.println(wrong == 0 ? "the face is the document's" : wrong + " faults");
         if (wrong != 0) {
